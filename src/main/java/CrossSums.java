@@ -905,11 +905,11 @@ public final class CrossSums {
                 }
             } else if (takeWord("across")) {
                 if (hasRoom(from)) {
-                    readLine(1);
+                    readLine(false);
                 }
             } else if (takeWord("down")) {
                 if (hasRoom(from)) {
-                    readLine(board.wide);
+                    readLine(true);
                 }
             } else {
                 fail(from, UNFIT);
@@ -971,20 +971,28 @@ public final class CrossSums {
             }
         }
 
-        /** A cage from a cell on, each next cell so far behind the one ahead: 1 across, wide down. */
-        private void readLine(int stride) {
+        private void readLine(boolean down) {
             int cell = readOpenCell();
             readTotal();
             boolean alike = takeWord("alike");
-            if (fault != NONE || stride < 1) {
-                return;
+            if (fault == NONE) {
+                board.addCage(sort, sum, alike, lineFrom(cell, down));
             }
-            int end = stride == 1 ? cell - cell % board.wide + board.wide : board.wide * board.high;
+        }
+
+        /** The cells from this one on up to a block or the end. */
+        private long lineFrom(int cell, boolean down) {
             long inside = 0;
+            int wide = board.wide;
+            if (wide < 1) {
+                return inside;
+            }
+            int stride = down ? wide : 1;
+            int end = down ? wide * board.high : cell - cell % wide + wide;
             for (int i = cell; i < end && board.isOpen(i); i += stride) {
                 inside |= 1L << i;
             }
-            board.addCage(sort, sum, alike, inside);
+            return inside;
         }
 
         private void readTotal() {
