@@ -27,8 +27,7 @@ public final class CrossSums {
     private static final int MOST_PRODUCT = 999999;
     private static final int MOST_SPAN = 6;
 
-    private final int[] tape = new int[MOST_BYTES];
-    private int fed;
+    private final Tape tape = new Tape();
     private final Board now = new Board();
     private final Board draft = new Board();
     private final Board[] past = new Board[MOST_UNDONE];
@@ -39,9 +38,8 @@ public final class CrossSums {
     private final int[] trial = new int[MOST_CELLS];
     private final Rules rules = new Rules();
     private final Ways ways = new Ways();
-    private final Logic logic = new Logic(rules, ways);
-    private final Search search = new Search(rules);
-    private final Reader reader = new Reader(tape, draft);
+    private final Logic logic = new Logic();
+    private final Search search = new Search();
     private final Writer writer = new Writer();
     private final Maker maker = new Maker();
 
@@ -57,41 +55,28 @@ public final class CrossSums {
     // ---- the tape ----
 
     public int feed(int a, int b, int c, int d, int e) {
-        if (fed > MOST_BYTES - FED_BYTES) {
+        if (!tape.hasRoom(FED_BYTES)) {
             return NONE;
         }
-        addBytes(a);
-        addBytes(b);
-        addBytes(c);
-        addBytes(d);
-        addBytes(e);
-        return fed;
-    }
-
-    private void addBytes(int number) {
-        for (int shift = 24; shift >= 0; shift -= 8) {
-            if (fed >= 0 && fed < MOST_BYTES) {
-                tape[fed] = (number >>> shift) & 255;
-                fed++;
-            }
-        }
+        tape.add(a);
+        tape.add(b);
+        tape.add(c);
+        tape.add(d);
+        tape.add(e);
+        return tape.length();
     }
 
     public int end(int n) {
-        if (n < 0 || n > fed) {
-            return NONE;
-        }
-        fed = n;
-        return n;
+        return tape.cut(n) ? n : NONE;
     }
 
     public int tell() {
-        int fault = reader.readBoard(fed);
-        fed = 0;
+        int fault = tape.readBoard();
+        tape.cut(0);
         if (fault != NONE) {
             return -2 - fault;
         }
-        now.copyFrom(draft);
+        now.copyFrom(tape.board);
         pastMany = 0;
         return now.cages;
     }
@@ -427,7 +412,7 @@ public final class CrossSums {
         if (cell >= 0 && cell < MOST_CELLS) {
             trial[cell] = marksThere;
         }
-        return search.look(now, trial, 1) == 1;
+        return search.canSolve(now, trial);
     }
 
     public int hint(int what) {
@@ -591,7 +576,7 @@ public final class CrossSums {
             case 8:
                 return pastMany;
             case 9:
-                return fed;
+                return tape.length();
             case 10:
                 return kept;
             default:
@@ -838,37 +823,57 @@ public final class CrossSums {
         }
     }
 
-    // ---- a board read from the tape ----
+    // ---- the tape, and the board that is read from it ----
 
-    private static final class Reader {
+    private static final class Tape {
         private static final int TOO_LONG = 10000000;
         private static final int UNFIT = 1;
         private static final int WRONG_NUMBER = 2;
         private static final int TOO_MANY = 3;
         private static final int TOO_OPEN = 4;
 
-        private final int[] tape;
-        private final Board board;
+        private final int[] bytes = new int[MOST_BYTES];
         private int size;
+        final Board board = new Board();
         private int at;
         private int fault;
         private int numberPlace;
         private int sort;
         private int sum;
 
-        Reader(int[] itsTape, Board itsBoard) {
-            tape = itsTape;
-            board = itsBoard;
+        int length() {
+            return size;
         }
 
-        /** The fault of the first bytes of the tape, or NONE, and they are told to the board. */
-        int readBoard(int many) {
-            size = Math.max(0, Math.min(many, tape.length));
+        boolean hasRoom(int many) {
+            return size + many <= MOST_BYTES;
+        }
+
+        /** The number's four bytes, the highest first. */
+        void add(int number) {
+            for (int shift = 24; shift >= 0; shift -= 8) {
+                if (size >= 0 && size < MOST_BYTES) {
+                    bytes[size] = number >>> shift & 255;
+                    size++;
+                }
+            }
+        }
+
+        boolean cut(int many) {
+            if (many < 0 || many > size) {
+                return false;
+            }
+            size = many;
+            return true;
+        }
+
+        /** The fault of the text, or NONE and the board is as it tells. */
+        int readBoard() {
             at = 0;
             fault = NONE;
             readSides();
             for (int parts = 0; parts < MOST_BYTES && fault == NONE && !isEnd(); parts++) {
-                if (tape[at] != ';') {
+                if (bytes[at] != ';') {
                     fail(at, UNFIT);
                 } else {
                     at++;
@@ -900,15 +905,15 @@ public final class CrossSums {
             } else if (takeWord("given")) {
                 readGiven();
             } else if (takeWord("cage")) {
-                if (hasRoom(from)) {
+                if (hasRoomForCage(from)) {
                     readCage();
                 }
             } else if (takeWord("across")) {
-                if (hasRoom(from)) {
+                if (hasRoomForCage(from)) {
                     readLine(false);
                 }
             } else if (takeWord("down")) {
-                if (hasRoom(from)) {
+                if (hasRoomForCage(from)) {
                     readLine(true);
                 }
             } else {
@@ -916,7 +921,7 @@ public final class CrossSums {
             }
         }
 
-        private boolean hasRoom(int from) {
+        private boolean hasRoomForCage(int from) {
             if (board.cages >= MOST_CAGES) {
                 fail(from, TOO_MANY);
             }
@@ -1021,7 +1026,7 @@ public final class CrossSums {
                 fail(at, UNFIT);
                 return NONE;
             }
-            int column = tape[at] - 'a';
+            int column = bytes[at] - 'a';
             at++;
             numberPlace = at;
             if (!isDigitAt(at)) {
@@ -1045,7 +1050,7 @@ public final class CrossSums {
             }
             int number = 0;
             for (; at < size && isDigitAt(at); at++) {
-                number = Math.min(TOO_LONG, number * 10 + tape[at] - '0');
+                number = Math.min(TOO_LONG, number * 10 + bytes[at] - '0');
             }
             if (number < least || number > most) {
                 fail(from, WRONG_NUMBER);
@@ -1068,7 +1073,7 @@ public final class CrossSums {
                 return false;
             }
             for (int i = 0; i < word.length(); i++) {
-                if (tape[at + i] != word.charAt(i)) {
+                if (bytes[at + i] != word.charAt(i)) {
                     return false;
                 }
             }
@@ -1078,11 +1083,11 @@ public final class CrossSums {
 
         private boolean isColumn() {
             skipBlanks();
-            return at < size && tape[at] >= 'a' && tape[at] < 'a' + board.wide;
+            return at < size && bytes[at] >= 'a' && bytes[at] < 'a' + board.wide;
         }
 
         private boolean isPartEnd() {
-            return fault != NONE || isEnd() || tape[at] == ';';
+            return fault != NONE || isEnd() || bytes[at] == ';';
         }
 
         private boolean isEnd() {
@@ -1091,15 +1096,15 @@ public final class CrossSums {
         }
 
         private boolean isLetterAt(int place) {
-            return place >= 0 && place < size && tape[place] >= 'a' && tape[place] <= 'z';
+            return place >= 0 && place < size && bytes[place] >= 'a' && bytes[place] <= 'z';
         }
 
         private boolean isDigitAt(int place) {
-            return place >= 0 && place < size && tape[place] >= '0' && tape[place] <= '9';
+            return place >= 0 && place < size && bytes[place] >= '0' && bytes[place] <= '9';
         }
 
         private void skipBlanks() {
-            while (at < size && tape[at] == ' ') {
+            while (at < size && bytes[at] == ' ') {
                 at++;
             }
         }
@@ -1419,10 +1424,25 @@ public final class CrossSums {
             if (state < 0 || state >= STATES || digit < 1 || digit > TOP_DIGIT) {
                 return NONE;
             }
-            if (isIn(stayLow[digit], stayHigh[digit], state)) {
+            long bit = 1L << (state & 63);
+            if (((state < 64 ? stayLow[digit] : stayHigh[digit]) & bit) != 0) {
                 return state;
             }
-            return isIn(moveLow[digit], moveHigh[digit], state) ? state + shift[digit] : NONE;
+            return ((state < 64 ? moveLow[digit] : moveHigh[digit]) & bit) != 0 ? state + shift[digit] : NONE;
+        }
+
+        /** The state by the cells with one mark; 0 if all have one, as there is nothing left to do then. */
+        int stateBy(int[] marks, int[] cells) {
+            int state = 0;
+            int sure = 0;
+            for (int i = 0; i < size && i < cells.length; i++) {
+                int there = marksAt(marks, cells[i]);
+                if (Integer.bitCount(there) == 1) {
+                    state = after(state, leastDigit(there));
+                    sure++;
+                }
+            }
+            return sure < size && state > 0 ? state : 0;
         }
 
         private void leadOn(int digit, long low, long high) {
@@ -1534,6 +1554,12 @@ public final class CrossSums {
             Rule rule = each[cage];
             rule.fit(board.sort[cage], board.isAlike(cage), board.totals[cage], board.size[cage]);
             return rule;
+        }
+
+        void readyAll(Board board) {
+            for (int k = 0; k < board.cages && k < MOST_CAGES; k++) {
+                ready(board, k);
+            }
         }
 
         /** The rule of a cage were any total right. */
@@ -1668,8 +1694,8 @@ public final class CrossSums {
         // Each step puts a digit in a cell or strikes a mark.
         private static final int MOST_STEPS = MOST_OPEN * (TOP_DIGIT + 1);
 
-        private final Rules rules;
-        private final Ways ways;
+        private final Rules rules = new Rules();
+        private final Ways ways = new Ways();
         private final int[][] could = new int[MOST_CAGES][CAGE_CELLS];
         int cageWithoutWay = LACKING;
         int cellWithoutMark = LACKING;
@@ -1680,11 +1706,6 @@ public final class CrossSums {
         private int twin;
         int steps;
         int kinds;
-
-        Logic(Rules itsRules, Ways itsWays) {
-            rules = itsRules;
-            ways = itsWays;
-        }
 
         boolean isBroken() {
             return cageWithoutWay != LACKING || cellWithoutMark != LACKING;
@@ -1872,166 +1893,211 @@ public final class CrossSums {
     // ---- solutions ----
 
     /**
-     * Looks for solutions cell by cell, in order, each cage held to states from which it can still end well.
-     * What lies ahead depends on the states of the cages alone: those that led nowhere are remembered.
+     * Looks for solutions by trying digits; behind each one all marks are struck that no way of a cage has by then.
+     * Whether the rest can be solved depends on which cells have one mark and on the states of the cages by these:
+     * rests that failed are remembered.
      */
     private static final class Search {
-        // Beside the cages that a failure leans on: that it was none.
-        private static final int FOUND = 1 << MOST_CAGES;
-        private static final int SLOTS = 8192;
+        private static final int SLOTS = 4096;
         private static final int STATE_BITS = 7;
         private static final int LOW_CAGES = 9;
+        // Each round but the first follows on a mark that was struck.
+        private static final int MOST_ROUNDS = MOST_OPEN * TOP_DIGIT + 2;
 
-        private final Rules rules;
-        private final int[] marks = new int[MOST_CELLS];
+        private final Rules rules = new Rules();
         private int places;
-        private int cages;
         private final int[] cells = new int[MOST_OPEN];
-        private final int[] cagesAt = new int[MOST_OPEN];
-        private final int[][] placeIn = new int[MOST_OPEN][MOST_CAGES];
-        // By place: the state of each cage ahead of it, 0 again when the cage is full.
-        private final int[][] states = new int[MOST_OPEN + 1][MOST_CAGES];
-        private final int[] digits = new int[MOST_OPEN];
+        // By cell: the cages that bind it, as bits.
+        private final int[] binding = new int[MOST_CELLS];
+        private int allBinding;
+        // By depth: the marks when so many digits were tried.
+        private final int[][] rows = new int[MOST_OPEN + 1][MOST_CELLS];
         private final int[][] solutions = new int[MOST_SOLUTIONS][MOST_OPEN];
         private int most;
         private int found;
         private long looks;
         private final long[] failedLow = new long[SLOTS];
         private final long[] failedHigh = new long[SLOTS];
-        private final int[] failedBy = new int[SLOTS];
-
-        Search(Rules itsRules) {
-            rules = itsRules;
-        }
 
         /** How many solutions the board has by these marks, most at the most; the first ones are kept in order. */
-        int look(Board board, int[] byMarks, int itsMost) {
+        int look(Board board, int[] marks, int itsMost) {
             found = 0;
             most = Math.max(1, Math.min(MOST_SOLUTIONS, itsMost));
-            looks++;
-            System.arraycopy(byMarks, 0, marks, 0, Math.min(MOST_CELLS, byMarks.length));
-            if (settle(board)) {
-                layOut(board);
-                seek(this, 0);
+            if (begin(board, marks)) {
+                gather(this, board, 0);
             }
             return found;
         }
 
-        /** Strikes what no way has, again and again; false if some cage has no way. */
-        private boolean settle(Board board) {
-            boolean changed = true;
-            for (int round = 0; round <= MOST_OPEN * TOP_DIGIT && changed; round++) {
-                changed = false;
+        /** Whether the board has a solution by these marks. */
+        boolean canSolve(Board board, int[] marks) {
+            found = 0;
+            return begin(board, marks) && isSolvable(this, board, 0);
+        }
+
+        private boolean begin(Board board, int[] marks) {
+            looks++;
+            rules.readyAll(board);
+            layOut(board);
+            System.arraycopy(marks, 0, rows[0], 0, Math.min(MOST_CELLS, marks.length));
+            for (int place = 0; place < places; place++) {
+                if (rows[0][cells[place]] == 0) {
+                    return false;
+                }
+            }
+            return settle(board, 0, allBinding);
+        }
+
+        private void layOut(Board board) {
+            allBinding = 0;
+            for (int k = 0; k < board.cages; k++) {
+                allBinding |= board.sort[k] == ANY && board.isAlike(k) ? 0 : 1 << k;
+            }
+            places = 0;
+            for (int cell = 0; cell < MOST_CELLS; cell++) {
+                binding[cell] = board.cagesOf(cell) & allBinding;
+                if (board.isOpen(cell) && places < MOST_OPEN) {
+                    cells[places] = cell;
+                    places++;
+                }
+            }
+        }
+
+        /** Strikes what no way has, in these cages and all that this leads on to; false if some cage has no way. */
+        private boolean settle(Board board, int depth, int cages) {
+            int[] marks = rows[depth];
+            int unsettled = cages;
+            for (int round = 0; unsettled != 0 && round < MOST_ROUNDS; round++) {
                 for (int k = 0; k < board.cages; k++) {
-                    Rule rule = rules.ready(board, k);
+                    if ((unsettled >> k & 1) == 0) {
+                        continue;
+                    }
+                    unsettled &= ~(1 << k);
+                    Rule rule = rules.each[k];
                     if (!rule.weigh(marks, board.cells[k])) {
                         return false;
                     }
                     for (int i = 0; i < board.size[k]; i++) {
-                        int there = board.cells[k][i];
-                        int left = rule.digitsAt(i, marks[there]);
-                        changed = changed || left != marks[there];
-                        marks[there] = left;
+                        int cell = board.cells[k][i];
+                        int left = rule.digitsAt(i, marks[cell]);
+                        if (left != marks[cell]) {
+                            marks[cell] = left;
+                            unsettled |= binding[cell] & ~(1 << k);
+                        }
                     }
                 }
             }
             return true;
         }
 
-        private void layOut(Board board) {
-            places = 0;
-            cages = board.cages;
-            for (int cell = 0; cell < MOST_CELLS; cell++) {
-                if (board.isOpen(cell) && places < MOST_OPEN) {
-                    cells[places] = cell;
-                    cagesAt[places] = board.cagesOf(cell);
-                    for (int k = 0; k < cages; k++) {
-                        placeIn[places][k] = board.placeIn(k, cell);
-                    }
-                    places++;
-                }
+        /** Keeps the solutions by the marks at that depth, in order. */
+        private static void gather(Search search, Board board, int depth) {
+            if (!isSolvable(search, board, depth)) {
+                return;
             }
-            for (int k = 0; k < MOST_CAGES; k++) {
-                states[0][k] = 0;
+            int cell = search.firstUnsure(depth);
+            if (cell == NONE || depth >= MOST_OPEN) {
+                search.store(depth);
+                return;
+            }
+            for (int digit = 1; digit <= TOP_DIGIT && search.found < search.most; digit++) {
+                if (search.enter(depth, cell, digit) && search.settle(board, depth + 1, search.binding[cell])) {
+                    gather(search, board, depth + 1);
+                }
             }
         }
 
-        /** Solutions from a place on; answers the cages that it leans on that there is none, or FOUND. */
-        private static int seek(Search search, int place) {
-            if (place >= search.places || place >= MOST_OPEN) {
-                search.store();
-                return FOUND;
+        private static boolean isSolvable(Search search, Board board, int depth) {
+            int cell = search.tightest(depth);
+            if (cell == NONE || depth >= MOST_OPEN) {
+                return true;
             }
-            long low = search.lowKey(place);
-            long high = search.highKey(place);
+            long low = search.lowKey(board, depth);
+            long high = search.highKey(board, depth);
             int slot = slotOf(low, high);
             if (search.failedLow[slot] == low && search.failedHigh[slot] == high) {
-                return search.failedBy[slot];
+                return false;
             }
-            int blame = 0;
-            for (int digit = 1; digit <= TOP_DIGIT && search.found < search.most; digit++) {
-                if ((search.marks[search.cells[place]] >> digit & 1) == 0) {
-                    continue;
+            for (int digit = 1; digit <= TOP_DIGIT; digit++) {
+                if (search.enter(depth, cell, digit) && search.settle(board, depth + 1, search.binding[cell])
+                        && isSolvable(search, board, depth + 1)) {
+                    return true;
                 }
-                int against = search.enter(place, digit);
-                if (against == 0) {
-                    against = seek(search, place + 1);
-                    if ((against & (FOUND | search.cagesAt[place])) == 0) {
-                        // It fails whatever digit is here.
-                        blame = against;
-                        break;
-                    }
-                }
-                blame |= against;
             }
-            if ((blame & FOUND) == 0) {
-                search.failedLow[slot] = low;
-                search.failedHigh[slot] = high;
-                search.failedBy[slot] = blame;
-            }
-            return blame;
+            search.failedLow[slot] = low;
+            search.failedHigh[slot] = high;
+            return false;
         }
 
-        /** Puts a digit there and leads its cages on; answers 0, or the cage that bears it not (as a bit). */
-        private int enter(int place, int digit) {
-            System.arraycopy(states[place], 0, states[place + 1], 0, MOST_CAGES);
-            for (int k = 0; k < cages && k < MOST_CAGES; k++) {
-                if ((cagesAt[place] >> k & 1) == 1) {
-                    Rule rule = rules.each[k];
-                    int behind = placeIn[place][k] + 1;
-                    int after = rule.after(states[place][k], digit);
-                    if (!rule.canEnd(behind, after)) {
-                        return 1 << k;
-                    }
-                    states[place + 1][k] = behind >= rule.size() ? 0 : after;
-                }
+        /** One deeper the cell has that digit alone; false if it is none of its marks. */
+        private boolean enter(int depth, int cell, int digit) {
+            if ((rows[depth][cell] >> digit & 1) == 0) {
+                return false;
             }
-            digits[place] = digit;
-            return 0;
+            System.arraycopy(rows[depth], 0, rows[depth + 1], 0, MOST_CELLS);
+            rows[depth + 1][cell] = 1 << digit;
+            return true;
         }
 
-        private void store() {
+        /** The first cell with more than one mark. */
+        private int firstUnsure(int depth) {
+            for (int place = 0; place < places; place++) {
+                if (Integer.bitCount(rows[depth][cells[place]]) > 1) {
+                    return cells[place];
+                }
+            }
+            return NONE;
+        }
+
+        /** The cell with the fewest marks for the cages that bind it, of those with more than one. */
+        private int tightest(int depth) {
+            int best = NONE;
+            int bestMarks = 0;
+            int bestCages = 0;
+            for (int place = 0; place < places; place++) {
+                int marks = Integer.bitCount(rows[depth][cells[place]]);
+                int cages = Integer.bitCount(binding[cells[place]]);
+                if (marks > 1 && cages > 0 && (best == NONE || marks * bestCages < bestMarks * cages)) {
+                    best = cells[place];
+                    bestMarks = marks;
+                    bestCages = cages;
+                }
+            }
+            return best;
+        }
+
+        private void store(int depth) {
             if (found >= 0 && found < MOST_SOLUTIONS) {
-                System.arraycopy(digits, 0, solutions[found], 0, MOST_OPEN);
+                for (int place = 0; place < places; place++) {
+                    solutions[found][place] = leastDigit(rows[depth][cells[place]]);
+                }
                 found++;
             }
         }
 
-        private long lowKey(int place) {
+        private long lowKey(Board board, int depth) {
             long key = 0;
-            for (int k = 0; k < LOW_CAGES; k++) {
-                key = key << STATE_BITS | states[place][k];
+            for (int k = 0; k < board.cages && k < LOW_CAGES; k++) {
+                key = key << STATE_BITS | stateOf(board, k, depth);
             }
             return key;
         }
 
-        /** With the place and the look, so that no other look's failures are taken for this one's. */
-        private long highKey(int place) {
-            long key = looks << 5 | place;
+        /** With the number of the look, so that no other look's failures are taken for this one's. */
+        private long highKey(Board board, int depth) {
+            long key = looks;
+            for (int place = 0; place < MOST_OPEN; place++) {
+                boolean sure = place < places && Integer.bitCount(rows[depth][cells[place]]) == 1;
+                key = key << 1 | (sure ? 1 : 0);
+            }
             for (int k = LOW_CAGES; k < MOST_CAGES; k++) {
-                key = key << STATE_BITS | states[place][k];
+                key = key << STATE_BITS | (k < board.cages ? stateOf(board, k, depth) : 0);
             }
             return key;
+        }
+
+        private int stateOf(Board board, int k, int depth) {
+            return (allBinding >> k & 1) == 0 ? 0 : rules.each[k].stateBy(rows[depth], board.cells[k]);
         }
 
         private static int slotOf(long low, long high) {
