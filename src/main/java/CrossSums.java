@@ -1431,10 +1431,13 @@ public final class CrossSums {
             return ((state < 64 ? moveLow[digit] : moveHigh[digit]) & bit) != 0 ? state + shift[digit] : NONE;
         }
 
-        /** The state by the cells with one mark; 0 if all have one, as there is nothing left to do then. */
+        /** The state by the cells with one mark; 0 if all have one, or if all is right: nothing is left to do then. */
         int stateBy(int[] marks, int[] cells) {
             int state = 0;
             int sure = 0;
+            if (alike && sort == ANY) {
+                return 0;
+            }
             for (int i = 0; i < size && i < cells.length; i++) {
                 int there = marksAt(marks, cells[i]);
                 if (Integer.bitCount(there) == 1) {
@@ -1554,12 +1557,6 @@ public final class CrossSums {
             Rule rule = each[cage];
             rule.fit(board.sort[cage], board.isAlike(cage), board.totals[cage], board.size[cage]);
             return rule;
-        }
-
-        void readyAll(Board board) {
-            for (int k = 0; k < board.cages && k < MOST_CAGES; k++) {
-                ready(board, k);
-            }
         }
 
         /** The rule of a cage were any total right. */
@@ -1901,6 +1898,7 @@ public final class CrossSums {
         private static final int SLOTS = 4096;
         private static final int STATE_BITS = 7;
         private static final int LOW_CAGES = 9;
+        private static final int PRIME = 32749;
         // Each round but the first follows on a mark that was struck.
         private static final int MOST_ROUNDS = MOST_OPEN * TOP_DIGIT + 2;
 
@@ -1912,6 +1910,7 @@ public final class CrossSums {
         private int allBinding;
         // By depth: the marks when so many digits were tried.
         private final int[][] rows = new int[MOST_OPEN + 1][MOST_CELLS];
+        private final int[][] equations = new int[MOST_CAGES][MOST_OPEN + 1];
         private final int[][] solutions = new int[MOST_SOLUTIONS][MOST_OPEN];
         private int most;
         private int found;
@@ -1937,7 +1936,9 @@ public final class CrossSums {
 
         private boolean begin(Board board, int[] marks) {
             looks++;
-            rules.readyAll(board);
+            for (int k = 0; k < board.cages; k++) {
+                rules.ready(board, k);
+            }
             layOut(board);
             System.arraycopy(marks, 0, rows[0], 0, Math.min(MOST_CELLS, marks.length));
             for (int place = 0; place < places; place++) {
@@ -1945,7 +1946,7 @@ public final class CrossSums {
                     return false;
                 }
             }
-            return settle(board, 0, allBinding);
+            return settle(board, 0, allBinding) && sumsFit(board);
         }
 
         private void layOut(Board board) {
@@ -1988,6 +1989,72 @@ public final class CrossSums {
                 }
             }
             return true;
+        }
+
+        /**
+         * Whether the sums, as equations, bear one another: rows and columns of other sums take long to refute by
+         * tries. They are taken modulo a prime, so that nothing overflows: what fails so fails outright.
+         */
+        private boolean sumsFit(Board board) {
+            int many = 0;
+            for (int k = 0; k < board.cages && many < MOST_CAGES; k++) {
+                if (board.sort[k] == SUM) {
+                    layEquation(board, k, equations[many]);
+                    many++;
+                }
+            }
+            int rank = 0;
+            for (int place = 0; place < places && rank < many; place++) {
+                if (bringUp(place, rank, many)) {
+                    for (int row = rank + 1; row < many; row++) {
+                        reduce(equations[row], equations[rank], place);
+                    }
+                    rank++;
+                }
+            }
+            for (int row = rank; row < many; row++) {
+                if (equations[row][MOST_OPEN] != 0) {
+                    return false;
+                }
+            }
+            return true;
+        }
+
+        private void layEquation(Board board, int k, int[] equation) {
+            int rest = board.totals[k];
+            for (int place = 0; place < MOST_OPEN; place++) {
+                equation[place] = 0;
+                if (place < places && (board.inside[k] >> cells[place] & 1) == 1) {
+                    int marks = rows[0][cells[place]];
+                    boolean sure = Integer.bitCount(marks) == 1;
+                    equation[place] = sure ? 0 : 1;
+                    rest -= sure ? leastDigit(marks) : 0;
+                }
+            }
+            equation[MOST_OPEN] = Math.floorMod(rest, PRIME);
+        }
+
+        /** Exchanges the equation of that rank for one that has the place; false if none has it. */
+        private boolean bringUp(int place, int rank, int many) {
+            for (int row = rank; row < many; row++) {
+                if (equations[row][place] != 0) {
+                    for (int i = 0; i <= MOST_OPEN; i++) {
+                        int kept = equations[rank][i];
+                        equations[rank][i] = equations[row][i];
+                        equations[row][i] = kept;
+                    }
+                    return true;
+                }
+            }
+            return false;
+        }
+
+        private static void reduce(int[] equation, int[] by, int place) {
+            int times = equation[place];
+            int scale = by[place];
+            for (int i = 0; i <= MOST_OPEN && times != 0; i++) {
+                equation[i] = Math.floorMod(equation[i] * scale - by[i] * times, PRIME);
+            }
         }
 
         /** Keeps the solutions by the marks at that depth, in order. */
@@ -2078,7 +2145,7 @@ public final class CrossSums {
         private long lowKey(Board board, int depth) {
             long key = 0;
             for (int k = 0; k < board.cages && k < LOW_CAGES; k++) {
-                key = key << STATE_BITS | stateOf(board, k, depth);
+                key = key << STATE_BITS | rules.each[k].stateBy(rows[depth], board.cells[k]);
             }
             return key;
         }
@@ -2091,13 +2158,9 @@ public final class CrossSums {
                 key = key << 1 | (sure ? 1 : 0);
             }
             for (int k = LOW_CAGES; k < MOST_CAGES; k++) {
-                key = key << STATE_BITS | (k < board.cages ? stateOf(board, k, depth) : 0);
+                key = key << STATE_BITS | (k < board.cages ? rules.each[k].stateBy(rows[depth], board.cells[k]) : 0);
             }
             return key;
-        }
-
-        private int stateOf(Board board, int k, int depth) {
-            return (allBinding >> k & 1) == 0 ? 0 : rules.each[k].stateBy(rows[depth], board.cells[k]);
         }
 
         private static int slotOf(long low, long high) {
