@@ -3,6 +3,8 @@ public final class CrossSums {
     public static final int NONE = -1;
 
     private static final int LACKING = -2;
+    private static final int ALREADY = -2;
+    private static final int BROKEN = -2;
     private static final int NO_MARK = -3;
 
     private static final int MOST_BYTES = 400;
@@ -88,7 +90,7 @@ public final class CrossSums {
             return NONE;
         }
         if (now.isDone(cell)) {
-            return LACKING;
+            return ALREADY;
         }
         if (!now.hasMark(cell, digit)) {
             return NO_MARK;
@@ -116,7 +118,7 @@ public final class CrossSums {
             return NONE;
         }
         if (now.isDone(cell)) {
-            return LACKING;
+            return ALREADY;
         }
         if (!now.hasMark(cell, digit)) {
             return NO_MARK;
@@ -131,7 +133,7 @@ public final class CrossSums {
             return NONE;
         }
         if (now.isGiven(cell) && now.digitOf(cell) == digit) {
-            return LACKING;
+            return ALREADY;
         }
         remember();
         now.giveDigit(cell, digit);
@@ -144,7 +146,7 @@ public final class CrossSums {
         }
         int was = now.totals[cage];
         if (was == n) {
-            return LACKING;
+            return ALREADY;
         }
         remember();
         now.totals[cage] = n;
@@ -157,7 +159,7 @@ public final class CrossSums {
         }
         logic.find(now);
         if (logic.isBroken()) {
-            return LACKING;
+            return BROKEN;
         }
         if (logic.kind != Logic.NO_STEP) {
             remember();
@@ -172,7 +174,7 @@ public final class CrossSums {
         }
         logic.find(now);
         if (logic.isBroken()) {
-            return LACKING;
+            return BROKEN;
         }
         if (logic.kind == Logic.NO_STEP) {
             return 0;
@@ -422,7 +424,7 @@ public final class CrossSums {
         if (search.look(now, now.marks, 1) == 0) {
             return LACKING;
         }
-        // The later looks write over this solution, so it is told to the draft first.
+        // The looks that follow forget this solution, so it is told to the draft first.
         draft.copyFrom(now);
         for (int place = 0; place < search.places(); place++) {
             draft.giveDigit(search.cellAt(place), search.digitAt(0, place));
