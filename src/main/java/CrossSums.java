@@ -1365,6 +1365,9 @@ public final class CrossSums {
             if (power(2, twos) * power(3, threes) * power(5, fives) * power(7, sevens) != total || states > STATES) {
                 return;
             }
+            if (three < 1 || five < three || seven < five) {
+                return;
+            }
             shift[2] = 1;
             shift[3] = three;
             shift[4] = 2;
@@ -1556,6 +1559,9 @@ public final class CrossSums {
 
         /** The rule of a cage (0 to 11) as the board tells it. */
         Rule ready(Board board, int cage) {
+            if (cage < 0 || cage >= MOST_CAGES) {
+                return other;
+            }
             Rule rule = each[cage];
             rule.fit(board.sort[cage], board.isAlike(cage), board.totals[cage], board.size[cage]);
             return rule;
@@ -1563,7 +1569,9 @@ public final class CrossSums {
 
         /** The rule of a cage were any total right. */
         Rule spare(Board board, int cage) {
-            other.fit(ANY, board.isAlike(cage), 0, board.size[cage]);
+            if (cage >= 0 && cage < MOST_CAGES) {
+                other.fit(ANY, board.isAlike(cage), 0, board.size[cage]);
+            }
             return other;
         }
     }
@@ -1714,7 +1722,7 @@ public final class CrossSums {
         void study(Board board) {
             cageWithoutWay = LACKING;
             cellWithoutMark = LACKING;
-            for (int k = board.cages - 1; k >= 0; k--) {
+            for (int k = Math.min(board.cages, MOST_CAGES) - 1; k >= 0; k--) {
                 Rule rule = rules.ready(board, k);
                 if (!rule.weigh(board.marks, board.cells[k])) {
                     cageWithoutWay = k;
