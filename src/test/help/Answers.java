@@ -84,12 +84,19 @@ class Answers {
         return b.toString();
     }
 
-    /** The board as it stands: its text, and what a text does not tell, the digits and the marks. */
+    /** The board as it stands: its sides, the totals of its cages, what its cells are and the marks they have. */
     static String board(CrossSums x) {
-        StringBuilder b = new StringBuilder(text(x));
+        StringBuilder b = new StringBuilder();
+        for (int what = 0; what <= 4; what++) {
+            b.append(' ').append(x.count(what));
+        }
+        int cages = x.count(4);
+        for (int k = 0; k < cages; k++) {
+            b.append(' ').append(x.cage(k, 1));
+        }
         int cells = x.count(0) * x.count(1);
         for (int c = 0; c < cells; c++) {
-            b.append(' ').append(x.cell(c, 1)).append('/').append(x.cell(c, 3));
+            b.append(' ').append(x.cell(c, 1)).append('/').append(x.cell(c, 2)).append('/').append(x.cell(c, 3));
         }
         return b.toString();
     }

@@ -46,11 +46,11 @@ public final class SentencesTest extends Answers {
     }
 
     private static void noBoard() {
-        CrossSums x = new CrossSums();
         for (int what = 0; what <= 10; what++) {
-            due("count(" + what + ")", x.count(what), 0);
+            due("count(" + what + ")", new CrossSums().count(what), 0);
         }
         for (int a = -2; a <= 12; a++) {
+            CrossSums x = new CrossSums();
             int n = a;
             refused(x, "put(" + n + ", 1)", () -> x.put(n, 1), -1);
             refused(x, "lift(" + n + ")", () -> x.lift(n), -1);
@@ -77,6 +77,7 @@ public final class SentencesTest extends Answers {
             due("range(" + n + ", true)", x.range(n, true), -1);
             due("letter(" + n + ")", x.letter(n), n < -1 ? -1 : n == -1 ? 0 : -2);
         }
+        CrossSums x = new CrossSums();
         refused(x, "step()", () -> x.step(), -1);
         refused(x, "run()", () -> x.run(), -1);
         refused(x, "undo()", () -> x.undo(), -1);
@@ -254,22 +255,24 @@ public final class SentencesTest extends Answers {
     }
 
     private static void noPuts() {
-        CrossSums x = told(BOARD);
         int[] noCells = {B2, -1, 6, 36, 64, 256, MIN, MAX};
         for (int c : noCells) {
+            CrossSums x = told(BOARD);
             refused(x, "put(" + c + ", 1)", () -> x.put(c, 1), -1);
         }
         int[] noDigits = {0, 5, 7, -1, 33, 65, MIN, MAX};
         for (int d : noDigits) {
+            CrossSums x = told(BOARD);
             refused(x, "put(0, " + d + ")", () -> x.put(A1, d), -1);
         }
+        CrossSums x = told(BOARD);
         refused(x, "put(4, 5)", () -> x.put(B2, 5), -1);
     }
 
     private static void putInDone() {
-        CrossSums x = told(BOARD + ";given b1 4");
-        x.put(A1, 1);
         for (int digit = 1; digit <= 4; digit++) {
+            CrossSums x = told(BOARD + ";given b1 4");
+            x.put(A1, 1);
             int d = digit;
             refused(x, "put(0, " + d + ")", () -> x.put(A1, d), -2);
             refused(x, "put(1, " + d + ")", () -> x.put(B1, d), -2);
@@ -353,21 +356,22 @@ public final class SentencesTest extends Answers {
     }
 
     private static void noStrikes() {
-        CrossSums x = told(BOARD);
         int[] noCells = {B2, -1, 6, 36, 64, MIN, MAX};
         for (int c : noCells) {
+            CrossSums x = told(BOARD);
             refused(x, "strike(" + c + ", 1)", () -> x.strike(c, 1), -1);
         }
         int[] noDigits = {0, 5, -1, 33, 65, MIN, MAX};
         for (int d : noDigits) {
+            CrossSums x = told(BOARD);
             refused(x, "strike(0, " + d + ")", () -> x.strike(A1, d), -1);
         }
     }
 
     private static void strikeInDone() {
-        CrossSums x = told(BOARD + ";given b1 4");
-        x.put(A1, 1);
         for (int digit = 1; digit <= 4; digit++) {
+            CrossSums x = told(BOARD + ";given b1 4");
+            x.put(A1, 1);
             int d = digit;
             refused(x, "strike(0, " + d + ")", () -> x.strike(A1, d), -2);
             refused(x, "strike(1, " + d + ")", () -> x.strike(B1, d), -2);
@@ -405,13 +409,14 @@ public final class SentencesTest extends Answers {
     }
 
     private static void noGives() {
-        CrossSums x = told(BOARD);
         int[] noCells = {B2, -1, 6, 36, 64, MIN, MAX};
         for (int c : noCells) {
+            CrossSums x = told(BOARD);
             refused(x, "give(" + c + ", 1)", () -> x.give(c, 1), -1);
         }
         int[] noDigits = {0, 5, -1, 33, 65, MIN, MAX};
         for (int d : noDigits) {
+            CrossSums x = told(BOARD);
             refused(x, "give(0, " + d + ")", () -> x.give(A1, d), -1);
         }
     }
@@ -450,10 +455,10 @@ public final class SentencesTest extends Answers {
     }
 
     private static void noTotals() {
-        CrossSums x = oneOfEach();
         int[][] wrong = {{0, -1}, {0, 100}, {0, MIN}, {0, MAX}, {1, -1}, {1, 1000000}, {1, MAX}, {2, -1}, {2, 7}, {2, 99},
             {3, 0}, {3, 1}, {3, -1}, {4, 5}, {-1, 5}, {12, 5}, {32, 5}, {MIN, 5}, {MAX, 5}};
         for (int[] w : wrong) {
+            CrossSums x = oneOfEach();
             refused(x, "total(" + w[0] + ", " + w[1] + ")", () -> x.total(w[0], w[1]), -1);
         }
     }
@@ -656,9 +661,9 @@ public final class SentencesTest extends Answers {
     }
 
     private static void noShelfToKeep() {
-        CrossSums x = told(BOARD);
         int[] noShelves = {-1, 2, 3, 31, 32, 33, MIN, MAX};
         for (int s : noShelves) {
+            CrossSums x = told(BOARD);
             refused(x, "keep(" + s + ")", () -> x.keep(s), -1);
         }
     }
@@ -690,12 +695,12 @@ public final class SentencesTest extends Answers {
     }
 
     private static void noShelfToBack() {
-        CrossSums x = told(BOARD);
-        x.keep(0);
-        x.keep(1);
-        x.put(A1, 1);
         int[] noShelves = {-1, 2, 3, 31, 32, 33, MIN, MAX};
         for (int s : noShelves) {
+            CrossSums x = told(BOARD);
+            x.keep(0);
+            x.keep(1);
+            x.put(A1, 1);
             refused(x, "back(" + s + ")", () -> x.back(s), -1);
         }
     }
@@ -1561,9 +1566,9 @@ public final class SentencesTest extends Answers {
     private static void lettersOfCages() {
         due("cages", text(told("board 2 2 top 7;down b1 product 999999 alike;across a2 any alike;cage sum 0 b2a1;cage span 6 a1")),
                 "board 2 2 top 7;cage product 999999 alike b1 b2;cage any alike a2 b2;cage sum 0 a1 b2;cage span 6 a1");
-        CrossSums x = told("board 1 1 top 7;cage product 100000 a1");
         int[] totals = {0, 1, 9, 10, 99, 100, 909, 1000, 9999, 10000, 99999, 100000, 900009, 999999};
         for (int n : totals) {
+            CrossSums x = told("board 1 1 top 7;cage product 10000 a1");
             x.total(0, n);
             due("a product of " + n, text(x), "board 1 1 top 7;cage product " + n + " a1");
         }

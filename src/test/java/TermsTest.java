@@ -859,8 +859,8 @@ public final class TermsTest extends Answers {
     }
 
     private static void backFromFirst() {
-        CrossSums x = told("board 3 1 top 2;across a1 any");
         for (int seed = -20; seed < 20; seed++) {
+            CrossSums x = told("board 3 1 top 2;across a1 any");
             int s = seed;
             refused(x, "make(" + s + ")", () -> x.make(s), -2);
         }
@@ -953,13 +953,16 @@ public final class TermsTest extends Answers {
         act(x, "put", () -> x.put(A1, 3), 1);
         act(x, "lift", () -> x.lift(A1), 3);
         act(x, "strike", () -> x.strike(A1, 3), 3);
-        act(x, "give", () -> x.give(A2, 2), 1);
-        act(x, "total", () -> x.total(0, 8), 7);
-        act(x, "total", () -> x.total(0, 7), 8);
-        act(x, "step", () -> x.step(), 2);
-        act(x, "run", () -> x.run(), x.weight(0));
-        act(x, "make", () -> x.make(3), 1);
-        due("count(8)", x.count(8), 9);
+        due("count(8)", x.count(8), 3);
+        CrossSums y = told(BOARD);
+        act(y, "give", () -> y.give(A2, 2), 1);
+        act(y, "total", () -> y.total(0, 8), 7);
+        act(y, "make", () -> y.make(3), 1);
+        due("count(8)", y.count(8), 3);
+        CrossSums z = told(BOARD);
+        act(z, "step", () -> z.step(), 2);
+        act(z, "run", () -> z.run(), 19);
+        due("count(8)", z.count(8), 2);
     }
 
     private static void lastTen() {
@@ -1016,27 +1019,27 @@ public final class TermsTest extends Answers {
         refused(x, "strike of no digit where one is put", () -> x.strike(A1, 0), -1);
         refused(x, "strike of no digit where one is given", () -> x.strike(B1, 5), -1);
         refused(x, "give of no digit where one is given", () -> x.give(B1, 8), -1);
-        refused(x, "lift of a block", () -> x.lift(B2), -1);
-        refused(x, "total of any that is so", () -> x.total(3, 0), -1);
-        refused(x, "back(2) when nothing is kept", () -> x.back(2), -1);
-        refused(x, "solution(10, 0)", () -> x.solution(10, A1), -1);
-        refused(x, "solution(9, 4)", () -> x.solution(9, B2), -1);
-        x.total(0, 0);
-        refused(x, "next(4) without a step", () -> x.next(4), -1);
-        refused(x, "hint(2) without a solution", () -> x.hint(2), -1);
-        refused(x, "wrong(2) without a solution", () -> x.wrong(2), -1);
-        refused(x, "broken(3)", () -> x.broken(3), -1);
-        refused(x, "solution(10, 0) without a solution", () -> x.solution(10, A1), -1);
-        refused(x, "solution(0, 4) without a solution", () -> x.solution(0, B2), -1);
-        refused(x, "solve(0) without a solution", () -> x.solve(0), -1);
-        refused(x, "sets(0, -2) without a way", () -> x.sets(0, -2), -1);
-        refused(x, "sets(5, 0)", () -> x.sets(5, 0), -1);
+        CrossSums y = told(BOARD);
+        refused(y, "lift of a block", () -> y.lift(B2), -1);
+        refused(y, "total of any that is so", () -> y.total(3, 0), -1);
+        refused(y, "back(2) when nothing is kept", () -> y.back(2), -1);
+        due("solution(10, 0)", y.solution(10, A1), -1);
+        due("solution(9, 4)", y.solution(9, B2), -1);
+        y.total(0, 0);
+        due("next(4) without a step", y.next(4), -1);
+        due("hint(2) without a solution", y.hint(2), -1);
+        due("wrong(2) without a solution", y.wrong(2), -1);
+        due("solution(10, 0) without a solution", y.solution(10, A1), -1);
+        due("solution(0, 4) without a solution", y.solution(0, B2), -1);
+        due("solve(0) without a solution", y.solve(0), -1);
+        due("sets(0, -2) without a way", y.sets(0, -2), -1);
+        due("sets(5, 0)", y.sets(5, 0), -1);
         CrossSums none = new CrossSums();
-        refused(none, "letter(-2) without a board", () -> none.letter(-2), -1);
-        refused(none, "broken(1) without a board", () -> none.broken(1), -1);
-        refused(none, "hint(0) without a board", () -> none.hint(0), -1);
-        refused(none, "next(1) without a board", () -> none.next(1), -1);
-        refused(none, "step() without a board", () -> none.step(), -1);
+        due("letter(-2) without a board", none.letter(-2), -1);
+        due("broken(1) without a board", none.broken(1), -1);
+        due("hint(0) without a board", none.hint(0), -1);
+        due("next(1) without a board", none.next(1), -1);
+        due("step() without a board", none.step(), -1);
     }
 
     private static void lackAheadOfMark() {
