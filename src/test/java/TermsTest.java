@@ -404,6 +404,18 @@ public final class TermsTest extends Answers {
     }
 
     private static void unfitWords() {
+        // Each word with one letter changed, at its place.
+        String text = "board 2 2 top 3;block b2;given a1 1;cage sum 3 a2;down a1 product 3;across a1 span 1;cage any a1";
+        for (String word : new String[] {"board", "top", "block", "given", "cage", "sum", "down", "product", "across", "span", "any"}) {
+            int place = text.indexOf(word);
+            for (int i = 0; i < word.length(); i++) {
+                fault(text.substring(0, place + i) + "x" + text.substring(place + i + 1), place, 1);
+            }
+        }
+        for (int i = 0; i < 5; i++) {
+            String word = new StringBuilder("alike").replace(i, i + 1, "x").toString();
+            fault("board 2 2 top 3;across a1 any " + word, 30, 1);
+        }
         fault("boards", 0, 1);
         fault("top 2", 0, 1);
         fault("board board", 6, 1);
@@ -914,6 +926,9 @@ public final class TermsTest extends Answers {
         x.strike(0, 5);
         x.make(MIN);
         due("cell(0, 3) struck ahead", x.cell(0, 3), 254);
+        CrossSums blocked = told("board 2 1 top 7;block a1;cage sum 1 b1");
+        blocked.make(1);
+        due("cell(0, 3) of a block", blocked.cell(0, 3), 0);
         due("lift(0)", x.lift(0), -2);
     }
 
