@@ -1918,6 +1918,8 @@ public final class CrossSums {
         // By cell: the cages that bind it, as bits.
         private final int[] binding = new int[MOST_CELLS];
         private int allBinding;
+        // Whether the cages ask no more than unlike digits, so that all digits are worth the same.
+        private boolean onlyUnlike;
         // By depth: the marks when so many digits were tried.
         private final int[][] rows = new int[MOST_OPEN + 1][MOST_CELLS];
         private final int[][] equations = new int[MOST_CAGES][MOST_OPEN + 1];
@@ -1961,8 +1963,10 @@ public final class CrossSums {
 
         private void layOut(Board board) {
             allBinding = 0;
+            onlyUnlike = true;
             for (int k = 0; k < board.cages; k++) {
                 allBinding |= board.sort[k] == ANY && board.isAlike(k) ? 0 : 1 << k;
+                onlyUnlike &= board.sort[k] == ANY;
             }
             places = 0;
             for (int cell = 0; cell < MOST_CELLS; cell++) {
@@ -2096,7 +2100,8 @@ public final class CrossSums {
                 return false;
             }
             for (int digit = 1; digit <= TOP_DIGIT; digit++) {
-                if (search.enter(depth, cell, digit) && search.settle(board, depth + 1, search.binding[cell])
+                if (!search.hasFailedAlike(depth, digit) && search.enter(depth, cell, digit)
+                        && search.settle(board, depth + 1, search.binding[cell])
                         && isSolvable(search, board, depth + 1)) {
                     return true;
                 }
@@ -2104,6 +2109,27 @@ public final class CrossSums {
             search.failedLow[slot] = low;
             search.failedHigh[slot] = high;
             return false;
+        }
+
+        /** Whether a lesser digit, tried ahead of this one, could be exchanged for it in all that is left to do. */
+        private boolean hasFailedAlike(int depth, int digit) {
+            for (int lesser = 1; onlyUnlike && lesser < digit; lesser++) {
+                if (areMarkedAlike(depth, lesser, digit)) {
+                    return true;
+                }
+            }
+            return false;
+        }
+
+        private boolean areMarkedAlike(int depth, int one, int other) {
+            for (int place = 0; place < places; place++) {
+                int marks = rows[depth][cells[place]];
+                if (Integer.bitCount(marks) > 1 && binding[cells[place]] != 0
+                        && (marks >> one & 1) != (marks >> other & 1)) {
+                    return false;
+                }
+            }
+            return true;
         }
 
         /** One deeper the cell has that digit alone; false if it is none of its marks. */
