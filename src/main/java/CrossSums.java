@@ -1966,7 +1966,7 @@ public final class CrossSums {
             onlyUnlike = true;
             for (int k = 0; k < board.cages; k++) {
                 allBinding |= board.sort[k] == ANY && board.isAlike(k) ? 0 : 1 << k;
-                onlyUnlike &= board.sort[k] == ANY;
+                onlyUnlike = onlyUnlike && board.sort[k] == ANY;
             }
             places = 0;
             for (int cell = 0; cell < MOST_CELLS; cell++) {
